@@ -8,6 +8,7 @@ public final class SupplyGrid {
     private static final int FAULTY = -4;
     private static final int REFUSED = -5;
     private static final int NOTHING_KEPT = -6;
+    private static final long NO_STRAP = -1L << 63;
 
     private static final int MOST_NODES = 9;
     private static final int MOST_STRAPS = 12;
@@ -161,7 +162,7 @@ public final class SupplyGrid {
 
     public long through(int strap, int what) {
         if (!hasStrap(strap) || !isPart(what)) {
-            return Long.MIN_VALUE;
+            return NO_STRAP;
         }
         Flow flow = now();
         long goes = net.widths[strap] * flow.rise(net, strap);
@@ -940,7 +941,7 @@ public final class SupplyGrid {
         int strapJoining(int node, int other) {
             for (int s = 0; s < straps; s++) {
                 boolean there = starts[s] == node && ends[s] == other;
-                if (there || starts[s] == other && ends[s] == node) {
+                if (there || (starts[s] == other && ends[s] == node)) {
                     return s;
                 }
             }
@@ -957,7 +958,7 @@ public final class SupplyGrid {
             for (int round = 0; round < MOST_NODES; round++) {
                 int before = bits;
                 for (int s = 0; s < straps; s++) {
-                    int both = 1 << starts[s] | 1 << ends[s];
+                    int both = (1 << starts[s]) | (1 << ends[s]);
                     if (byWidths[s] > 0 && (bits & both) != 0) {
                         bits |= both;
                     }
@@ -1189,7 +1190,7 @@ public final class SupplyGrid {
             if (kind != NUMBER) {
                 return fail(1);
             }
-            return value >= least && value <= greatest || fail(2);
+            return (value >= least && value <= greatest) || fail(2);
         }
 
         private boolean needSign() {
@@ -1297,7 +1298,7 @@ public final class SupplyGrid {
         private final int[] unit = new int[MOST_NODES];
 
         void settle(Net net, int[] widths, int padBits, int[] loads) {
-            deadBits = (1 << net.nodes) - 1 & ~net.spread(widths, padBits);
+            deadBits = ((1 << net.nodes) - 1) & ~net.spread(widths, padBits);
             numberRows(net, padBits);
             fillRows(net, widths, loads);
             clearRows();
@@ -1437,7 +1438,7 @@ public final class SupplyGrid {
             below = flow.below;
             Arrays.fill(draws, 0);
             System.arraycopy(net.budgets, 0, left, 0, BUDGETS);
-            int waiting = (1 << net.nodes) - 1 & ~flow.deadBits;
+            int waiting = ((1 << net.nodes) - 1) & ~flow.deadBits;
             for (int turn = 0; turn < net.nodes && waiting != 0; turn++) {
                 int next = strongest(net, waiting);
                 drawAll(net, next);
@@ -1548,7 +1549,7 @@ public final class SupplyGrid {
             int chosen = NONE;
             for (int node = 0; node < net.nodes; node++) {
                 if ((padBits >> node & 1) == 0) {
-                    flow.settle(net, net.widths, padBits | 1 << node, net.loads);
+                    flow.settle(net, net.widths, padBits | (1 << node), net.loads);
                     if (chosen == NONE || flow.score.isBetterThan(best)) {
                         chosen = node;
                         best.copyFrom(flow.score);
@@ -1784,7 +1785,7 @@ public final class SupplyGrid {
             pairCount = 0;
             for (int s = 0; s < net.straps; s++) {
                 for (int other = s + 1; other < net.straps; other++) {
-                    if ((spareBits >> s & spareBits >> other & 1) == 1) {
+                    if ((spareBits >> s & 1) == 1 && (spareBits >> other & 1) == 1) {
                         tryPair(net, s, other);
                     }
                 }
@@ -1828,7 +1829,7 @@ public final class SupplyGrid {
         }
 
         private int nextDraw(int load) {
-            seedNow = 1103515245L * seedNow + 12345L & 0x7fffffffL;
+            seedNow = (1103515245L * seedNow + 12345L) & 0x7fffffffL;
             return load > 0 ? (int) (seedNow / 65536 % (load + 1)) : 0;
         }
 

@@ -155,7 +155,7 @@ public final class PromiseTest {
             + "node 1 = 0 99 3 1 -1\nbudget = 999 999 999 0 -1");
         String good = "grid columns 2 rows 2 width 1 limit 3 wear 9;";
         add("promise 5: fault\nfault = 0 -1 -1\nfault -1 = -1\n"
-            + "fault 1 0: ;\nfault 1 0: 7\nfault 1 0: Grid columns\nfault 1 1:  ^\nfault 1 0: gridx columns 2\nfault 1 0: strap at 0 0 east width 1;\n"
+            + "fault 1 0: ;\nfault 1 0: 7\nfault 1 0: Grid columns\nfault 1 1:  ^\nfault 1 0: gridz columns 2\nfault 1 0: agrid columns 2\nfault 1 4: grid{\nfault 1 4: grid`\nfault 1 13: grid columns /2\nfault 1 14: grid columns 2: rows\nfault 1 0: strap at 0 0 east width 1;\n"
             + "fault 1 4: grid\nfault 1 7: grid  \\n\nfault 1 5: grid rows 2\nfault 2 13: grid columns 0\nfault 2 13: grid columns 10 x\n"
             + "fault 1 13: grid columns x\nfault 2 20: grid columns 3 rows 4 width 1\nfault 2 20: grid columns 1 rows 10\n"
             + "fault 2 28: grid columns 3 rows 3 width 5 limit\nfault 2 36: grid columns 3 rows 3 width 4 limit 1000 wear\n"
@@ -218,7 +218,7 @@ public final class PromiseTest {
             + "share 4 0 0 = -2\nshare 0 4 0 = -2\nshare 0 0 2 = -2\n" + BROKEN + "share 1 1 = 1 1\nshare 1 2 = 0 1\nshare 4 1 = -1 -1 -2\nshare 1 4 = -1 -1");
         add("promise 28: feeder\nfeeder 0 0 = -2\n" + LINE + "feeder 2 = 2 1 0 -1 -1\nfeeder 0 = 0 -1\nfeeder 1 = 1 0 -1\nfeeder 2 -1 = -2\nfeeder 3 0 = -2\nfeeder -1 0 = -2\nfeeder 2 2147483647 = -1\n"
             + SQUARE + "feeder 3 = 3 1 0 -1\ndraw 1 5 = 4\nfeeder 3 = 3 2 0 -1\n" + DEAD + "feeder 0 = 0 -1\nfeeder 1 = 1 -1\n"
-            + LINE + "draw 2 0 = 6\nfeeder 2 = 2 -1\ndraw 1 4 = 0\nfeeder 2 = 2 -1\nfeeder 1 = 1 0 -1\n" + BROKEN + "feeder 2 = 2 3 -1");
+            + LINE + "draw 2 0 = 6\nfeeder 2 = 2 -1\ndraw 1 4 = 0\nfeeder 2 = 2 -1\nfeeder 1 = 1 0 -1\n" + BROKEN + "feeder 2 = 2 3 -1\n" + DEAD + "feeds 0 = 1\ndraw 1 1 = 3\nfeeder 1 = 1 0 -1");
         add("promise 29: parts\nparts = -2\n" + LINE + "parts = 1\n" + BROKEN + "parts = 3\n" + SINGLE + "parts = 1\n" + "text 1: grid columns 3 rows 3 width 0 limit 1 wear 1;\nparts = 9");
         add("promise 30: reached\nreached 0 = -2\n" + BROKEN + "reached = 3 3 12 12 16 -2\nreached -1 = -2\n" + CROSS + "reached 8 = 511");
     }
@@ -242,7 +242,7 @@ public final class PromiseTest {
         add("promise 31: heat\nheat 0 0 = -2\n" + LINE + "heat 0 = 3 1 -2\nheat 2 0 = -2\nheat -1 0 = -2\nheat 0 -1 = -2\n" + BROKEN + "heat 0 = 3 1\nheat 1 = 0 1\nheat 2 = 3 2\nheat 3 = 0 1\n"
             + DEAD + "heat 0 = 0 1");
         add("promise 32: hottest\nhottest = -2\n" + LINE + "hottest = 0\ndraw 1 1 = 0\nhottest = 0\n" + BROKEN + "hottest = 0\ndraw 1 2 = 6\nhottest = 2\ndraw 1 3 = 2\nhottest = 0\n"
-            + DEAD + "hottest = -1\n" + SINGLE + "hottest = -1\n" + LINE + "draw 2 0 = 6\nhottest = -1");
+            + DEAD + "hottest = -1\n" + SINGLE + "hottest = -1\n" + LINE + "draw 2 0 = 6\nhottest = -1\n" + DEAD + "feeds 0 = 1\ndraw 1 1 = 3\nhottest = 0");
         add("promise 33: wearing\nwearing = -2\n" + LINE + "wearing = 0\ndraw 2 10 = 6\nwearing = 0\ndraw 2 11 = 10\nwearing = 3\n" + BROKEN + "wearing = 1\ndraw 2 4 = 3\nwearing = 1\ndraw 2 5 = 4\nwearing = 5");
         add("promise 34: aged\naged 0 0 = -2\n" + wears + "aged 0 0 = 2\naged 1 0 = 1\naged 1 1 = 1\naged 2 0 = 0\naged 2 1 = 0\naged 3 0 = 0\naged 100 1 = 0\naged 101 0 = -2\naged -1 0 = -2\naged 0 2 = -2\n"
             + "aged 0 -1 = -2\ncount 5 = 1\nstrap 0 2 = 2\n" + BROKEN + "aged 1 0 = 1\naged 2 0 = 0\naged 1 2 = 2\naged 100 2 = 2\naged 100 1 = 0");
@@ -281,7 +281,7 @@ public final class PromiseTest {
         add("promise 51: vital\nvital = -2\n" + LINE + "vital = 0\n" + SQUARE + "vital = 0\n" + BROKEN + "vital = 2\n" + SINGLE + "vital = -1\n" + DEAD + "vital = 0\nlay 0 0 = 1\nvital = -1");
         add("promise 52: spare\nspare = -2\n" + LINE + "spare = 0\n" + CROSS + "spare = 0\n" + CROSS.replace("limit 20", "limit 30") + "spare = 4095\nlay 3 0 = 1\nspare = 581\n" + DEAD + "draw 1 0 = 3\nspare = 1\nlay 0 0 = 1\nspare = 0");
         String four = "text 3: grid columns 2 rows 2 width 1 limit 12 wear 9;pad at 0 0;load at 1 1 draws 6;\n";
-        add("promise 53: pairs\npairs = -2\n" + LINE + "pairs = 0\n" + four + "pairs = 4\n" + four.replace("limit 12", "limit 11") + "pairs = 0\n" + SINGLE + "pairs = 0");
+        add("promise 53: pairs\npairs = -2\n" + LINE + "pairs = 0\n" + four + "pairs = 4\n" + four.replace("limit 12", "limit 11") + "pairs = 0\n" + SINGLE + "pairs = 0\n" + CROSS + "pairs = 0\n" + CROSS.replace("limit 20", "limit 30") + "pairs = 30\npair 29 = 911\npair 30 = -1");
         add("promise 54: pair\npair 0 = -2\n" + LINE + "pair = -1 -1\npair -1 = -2\n" + four + "pair = 1 3 102 203 -1\npair 2147483647 = -1");
         add("promise 55: chance\nchance 0 1 = -2\n" + SQUARE + "chance 0 1 = 0\nchance -1 1 = -2\nchance 0 0 = -2\nchance 0 101 = -2\nchance 2147483647 100 = 36\n" + SINGLE + "chance 5 100 = 100\n" + DEAD + "chance 0 4 = 1");
         add("promise 56: luck\nluck 0 1 0 = -2\n" + SQUARE + "luck 0 1 = 5 1 -2\nluck -1 1 0 = -2\nluck 0 0 0 = -2\nluck 0 101 0 = -2\nluck 0 1 -1 = -2\n" + DEAD + "luck 7 100 = 0 1 -2");

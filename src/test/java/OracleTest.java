@@ -10,7 +10,8 @@ import java.util.TreeMap;
 
 /**
  * Random runs of calls, answered by SupplyGrid and by a slow model of the document (snapshots for
- * undo, fractions of big integers, no short cuts). Usage: OracleTest [runs [first seed]].
+ * undo, fractions of big integers, no short cuts). The model runs all scripts, too.
+ * Usage: OracleTest [runs [first seed]].
  */
 public final class OracleTest {
     /** Each call with the kinds of its arguments: see argument(). */
@@ -58,6 +59,10 @@ public final class OracleTest {
                 System.out.println(name + " never answered anything of weight");
             }
         }
+        List<Scripts.Case> cases = new ArrayList<>(PromiseTest.cases());
+        cases.addAll(EdgeTest.cases());
+        // What the scripts ask for is looked at here by other eyes than SupplyGrid's.
+        wrong += new Scripts(Model::new, false).runEach("the model's scripts", cases) ? 0 : 1;
         System.out.println(wrong == 0 ? "oracle: " + runs + " runs agree" : "oracle: " + wrong + " runs differ");
         if (wrong != 0) {
             System.exit(1);

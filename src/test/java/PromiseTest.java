@@ -1,46 +1,33 @@
-import java.lang.reflect.Method;
 import java.util.ArrayList;
 import java.util.List;
-import java.util.Set;
-import java.util.TreeSet;
 
-/**
- * One script or more for each promise of the document, each on a new object. Lines of a script:
- * "text n: .." feeds the text, grid() answers n; "fault f p: .." feeds the text, grid() answers -4, its FAULT
- * is f, its place p; "name arguments = answers": a call, or, with several answers, calls with 0, 1, 2 .. as the
- * last argument. "\n" in a text is a new line, "^" a byte 200.
- */
+/** One script or more for each promise of the document; Scripts tells their form. */
 public final class PromiseTest {
-    /** DROPS 0, 3, 6. STRAPS: 0 from 0 to 1, 1 from 1 to 2. */
-    private static final String LINE =
-        "text 3: grid columns 3 rows 1 width 2 limit 10 wear 5; pad at 0 0; load at 2 0 draws 6;\n";
-    /** DROPS 0, 6, 6, 8. STRAPS: 0-1, 0-2, 1-3, 2-3. */
-    private static final String SQUARE =
-        "text 6: grid columns 2 rows 2 width 1 limit 3 wear 9; pad at 0 0; load at 1 0 draws 4;"
-        + "load at 0 1 draws 4;load at 1 1 draws 4; budget 0 is 8;\n";
-    /** Nodes 0 - 1, 2 - 3 and 4: two parts with a PAD each (0, 3), and a DEAD one that draws. */
-    private static final String BROKEN =
-        "text 8: grid columns 5 rows 1 width 2 limit 10 wear 2; strap at 1 0 east width 0; strap at 3 0 east width 0;"
-        + "pad at 0 0; pad at 3 0; load at 1 0 draws 6; load at 2 0 draws 3 group 2; load at 4 0 draws 5;\n";
-    /** No PAD: all are DEAD. */
-    private static final String DEAD =
-        "text 2: grid columns 2 rows 1 width 1 limit 5 wear 5; load at 1 0 draws 3;\n";
-    /** One NODE, a PAD that draws. */
-    private static final String SINGLE =
-        "text 3: grid columns 1 rows 1 width 4 limit 0 wear 1; pad at 0 0; load at 0 0 draws 7;\n";
-    /** Three rows of three, a PAD in the middle, the corners draw. */
-    private static final String CROSS =
-        "text 6: grid columns 3 rows 3 width 1 limit 20 wear 6; pad at 1 1; load at 0 0 draws 12; load at 2 0 draws 12;"
-        + "load at 0 2 draws 12; load at 2 2 draws 12;\n";
+    private static final String LINE = told("LINE");
+    private static final String SQUARE = told("SQUARE");
+    private static final String BROKEN = told("BROKEN");
+    private static final String DEAD = told("DEAD");
+    private static final String SINGLE = told("SINGLE");
+    private static final String CROSS = told("CROSS");
 
-    private static final List<String> SCRIPTS = new ArrayList<>();
-    private static int wrong = 0;
+    private static final List<Scripts.Case> CASES = new ArrayList<>();
 
-    private static void add(String script) {
-        SCRIPTS.add(script);
+    private static String told(String name) {
+        String text = Scripts.GRIDS.get(name);
+        return "text " + text.chars().filter(sign -> sign == ';').count() + ": " + text + "\n";
     }
 
-    public static void main(String[] args) throws Exception {
+    /** The first line is "promise n: name". */
+    private static void add(String script) {
+        String first = script.substring(0, script.indexOf('\n'));
+        int colon = first.indexOf(':');
+        int promise = Integer.parseInt(first.substring("promise ".length(), colon));
+        String rest = script.substring(first.length() + 1).replace("\\n", "<10>").replace("^", "<200>");
+        CASES.add(new Scripts.Case(promise, first.substring(colon + 2), rest));
+    }
+
+    static List<Scripts.Case> cases() {
+        CASES.clear();
         textScripts();
         gridScripts();
         dropScripts();
@@ -49,84 +36,11 @@ public final class PromiseTest {
         searchScripts();
         lossScripts();
         actScripts();
-        Set<String> called = new TreeSet<>();
-        for (String script : SCRIPTS) {
-            runScript(script, called);
-        }
-        for (Method method : SupplyGrid.class.getDeclaredMethods()) {
-            if (java.lang.reflect.Modifier.isPublic(method.getModifiers()) && !called.contains(method.getName())) {
-                wrong++;
-                System.out.println("no script calls " + method.getName());
-            }
-        }
-        for (int promise = 1; promise <= 66; promise++) {
-            String head = "promise " + promise + ":";
-            if (SCRIPTS.stream().noneMatch(script -> script.startsWith(head))) {
-                wrong++;
-                System.out.println("no script for promise " + promise);
-            }
-        }
-        System.out.println(wrong == 0 ? "promises: all answers are as due" : "promises: " + wrong + " answers are not as due");
-        if (wrong != 0) {
-            System.exit(1);
-        }
+        return CASES;
     }
 
-    private static void runScript(String script, Set<String> called) throws Exception {
-        String[] lines = script.split("\n");
-        SupplyGrid grid = new SupplyGrid();
-        for (int i = 1; i < lines.length; i++) {
-            String line = lines[i].strip();
-            if (line.startsWith("text ") || line.startsWith("fault ") && line.contains(":")) {
-                String[] due = line.substring(0, line.indexOf(':')).split(" ");
-                feedText(grid, line.substring(line.indexOf(':') + 2));
-                boolean good = due[0].equals("text");
-                check(lines[0], line, grid.grid(), good ? Long.parseLong(due[1]) : -4);
-                check(lines[0], line + " (fault)", grid.fault(0), good ? 0 : Long.parseLong(due[1]));
-                check(lines[0], line + " (place)", grid.fault(1), good ? -1 : Long.parseLong(due[2]));
-                called.add("grid");
-            } else if (!line.isEmpty()) {
-                called.add(line.split(" ")[0]);
-                runCalls(lines[0], grid, line);
-            }
-        }
-    }
-
-    private static void runCalls(String head, SupplyGrid grid, String line) throws Exception {
-        String[] halves = line.split(" ?= ");
-        String[] answers = halves[1].strip().split(" ");
-        for (int i = 0; i < answers.length; i++) {
-            String call = answers.length == 1 ? halves[0] : halves[0] + " " + i;
-            String[] words = call.strip().split(" ");
-            Class<?>[] types = new Class<?>[words.length - 1];
-            Object[] arguments = new Object[words.length - 1];
-            for (int k = 0; k < types.length; k++) {
-                types[k] = int.class;
-                arguments[k] = Integer.parseInt(words[k + 1]);
-            }
-            Object got = SupplyGrid.class.getMethod(words[0], types).invoke(grid, arguments);
-            check(head, call, ((Number) got).longValue(), Long.parseLong(answers[i]));
-        }
-    }
-
-    private static void check(String head, String call, long got, long want) {
-        if (got != want) {
-            wrong++;
-            System.out.println(head + " " + call + " answered " + got + ", due is " + want);
-        }
-    }
-
-    private static void feedText(SupplyGrid grid, String told) {
-        String text = told.replace("\\n", "\n").replace('^', (char) 200);
-        int start = grid.count(7);
-        for (int from = 0; from < text.length(); from += 20) {
-            int[] numbers = new int[5];
-            for (int i = 0; i < 20; i++) {
-                numbers[i / 4] = numbers[i / 4] << 8 | (from + i < text.length() ? text.charAt(from + i) : ' ');
-            }
-            grid.feed(numbers[0], numbers[1], numbers[2], numbers[3], numbers[4]);
-        }
-        grid.end(start + text.length());
+    public static void main(String[] args) {
+        System.exit(Scripts.runAll("promises", cases()) ? 0 : 1);
     }
 
     private static void textScripts() {
@@ -224,8 +138,7 @@ public final class PromiseTest {
     }
 
     private static void boundedScripts() {
-        String groups = "text 9: grid columns 4 rows 1 width 1 limit 20 wear 9;pad at 0 0;load at 0 0 draws 9;load at 1 0 draws 5 group 1;load at 2 0 draws 5 group 1;"
-            + "load at 3 0 draws 5 group 2;budget 1 is 7;budget 2 is 3;budget 0 is 9;\n";
+        String groups = told("GROUPS");
         add("promise 22: most\nmost 0 0 = -2\n" + SQUARE + "most 0 = 0 1 -2\nmost 1 = 5 1\nmost 2 = 5 1\nmost 3 = 6 1\nmost 4 0 = -2\nmost -1 0 = -2\nmost 0 2 = -2\n"
             + DEAD + "most 0 = -1 -1 -2\n" + LINE + "most 2 = 6 1\n" + groups + "most 3 = 20 1\nmost 1 = 9 1\nmost 2 = 17 1\n" + BROKEN + "most 2 = 3 2");
         add("promise 23: drawn\ndrawn 0 0 = -2\n" + SQUARE + "drawn 1 = 0 4 0 4 -2\ndrawn 3 = 0 4 0 4\ndrawn 2 = 0 0 4 4\ndrawn 0 = 0 4 4 0\ndrawn 4 0 = -2\ndrawn -1 0 = -2\n"

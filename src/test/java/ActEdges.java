@@ -271,6 +271,30 @@ final class ActEdges {
             strap 0 2 = 3
             count 5 = 20
             """);
+        edge(61, "what was found before it is found anew", """
+            tell WEARS
+            drop 1 = 5 4
+            most 1 = 5 4
+            lasts = 2
+            worn 0 = 4
+            calms = 4
+            padded 0 = 5 4
+            slims = 1
+            fewest = 0
+            without 0 0 = 0
+            year = 1
+            drop 1 = 5 3
+            most 1 = 5 3
+            lasts = 1
+            worn 0 = 3
+            calms = 3
+            padded 0 = 5 3
+            slims = 0
+            year = 1
+            fewest = 1
+            widens = 1
+            lasts = 0
+            """);
         edge(61, "there is no GRID", """
             kept year = -2
             """);
@@ -441,6 +465,49 @@ final class ActEdges {
             undo = 0
             strap 0 2 = 2
             undo = -5
+            """);
+        edge(64, "the acts, too: others have been done since", """
+            tell LINE
+            lay 0 1 = 2
+            draw 2 20 = 6
+            year = 2
+            feeds 2 = 2
+            image 0 = 0
+            anew = 4
+            year = 0
+            feeds 1 = 2
+            lay 1 4 = 2
+            draw 1 7 = 0
+            back 0 = 0
+            did 0 = 1 2
+            did 1 = 1 0
+            did 2 = 1 6
+            did 3 = 1 2
+            undo = 3
+            count 8 = 1
+            undo = 2
+            strap 0 2 = 1
+            strap 1 2 = 2
+            undo = 1
+            node 2 1 = 6
+            undo = 0
+            strap 0 2 = 2
+            """);
+        edge(64, "20 acts, and 20 others since", """
+            tell WEARS
+            10x draw 1 {4 5}
+            image 1 = 0
+            anew = 20
+            10x lay 0 {3 4}
+            did 0 = 20 70
+            back 1 = 0
+            did 0 = 0 0
+            did 2 = 20 90
+            undo = 19
+            node 1 1 = 4
+            strap 0 2 = 4
+            anew = 19
+            node 1 1 = 5
             """);
         edge(64, "again and again", """
             tell LINE

@@ -113,6 +113,14 @@ final class BoundEdges {
             drawn 0 = 0 5 0
             tight 1 = 0
             """);
+        edge(23, "another that is DEAD by now", """
+            tell GROUPS
+            drawn 1 = 0 5 2 2
+            lay 2 0 = 1
+            drawn 1 = 2 5 2 0
+            lay 1 0 = 1
+            drawn 1 = 4 5 0 0
+            """);
         edge(23, "the first is DEAD", """
             tell BROKEN
             drawn 4 {0 1 2 3 4} = -1
@@ -184,6 +192,12 @@ final class BoundEdges {
             text 3: grid columns 3 rows 1 width 4 limit 0 wear 9;pad at 0 0;load at 1 0 draws 1;
             unsafe = 6
             """);
+        edge(25, "NODE 0, too", """
+            tell FIRST
+            unsafe = 1
+            draw 0 2 = 3
+            unsafe = 0
+            """);
         edge(25, "DEAD ones are none", """
             tell DEAD
             unsafe = 0
@@ -247,6 +261,11 @@ final class BoundEdges {
             share 1 2 = 1 6 -2
             share 1 3 = 1 3 -2
             share 3 1 = 1 4 -2
+            """);
+        edge(27, "NODE 0, too", """
+            tell FIRST
+            share 0 0 = 1 1 -2
+            share 0 1 = 0 1 -2
             """);
         edge(27, "without any DROP: 0 by 1", """
             tell SINGLE

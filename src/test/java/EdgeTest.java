@@ -12,6 +12,7 @@ public final class EdgeTest {
         SearchEdges.addTo(cases);
         LossEdges.addTo(cases);
         ActEdges.addTo(cases);
+        FullEdges.addTo(cases);
         return cases;
     }
 

@@ -482,6 +482,12 @@ final class GridEdges {
             tell BROKEN
             over = 0
             """);
+        edge(17, "NODE 0, too", """
+            tell FIRST
+            over = 1
+            draw 0 2 = 3
+            over = 0
+            """);
         edge(17, "there is no GRID", """
             over = -2
             """);
@@ -521,6 +527,10 @@ final class GridEdges {
             tell LINE
             draw 0 99 = 0
             loss = 36 1
+            """);
+        edge(19, "NODE 0, too", """
+            tell FIRST
+            loss = 9 1 -2
             """);
         edge(19, "no such what, no GRID", """
             loss {-1 0 1 2} = -2

@@ -224,6 +224,13 @@ final class LossEdges {
             pairs = 2
             pair = 910 1011 -1
             """);
+        edge(54, "many of them", """
+            text 17: grid columns 3 rows 3 width 1 limit 165 wear 9;strap at 0 0 east width 2;strap at 0 0 south width 2;strap at 1 0 east width 2;\
+            strap at 0 1 east width 2;strap at 1 1 east width 2;strap at 0 2 east width 3;strap at 1 2 east width 2;load at 0 0 draws 4;pad at 1 0;\
+            load at 1 0 draws 39;load at 2 0 draws 2;load at 1 1 draws 17;load at 2 1 draws 50;load at 0 2 draws 39;load at 1 2 draws 45;load at 2 2 draws 38;
+            pairs = 53
+            pair {53 65 66} = -1
+            """);
         edge(54, "there are not so many", """
             tell LINE
             pair {0 1 65 66 MAX} = -1
@@ -258,6 +265,13 @@ final class LossEdges {
             chance 0 5 = 1
             chance 0 6 = 2
             chance 1 6 = 0
+            """);
+        edge(55, "a LOAD of 1: 0 or 1", """
+            text 3: grid columns 2 rows 1 width 1 limit 0 wear 9;pad at 0 0;load at 1 0 draws 1;
+            chance 0 8 = 4
+            chance MAX 8 = 5
+            luck 0 1 = 0 1
+            luck 0 2 = 1 1
             """);
         edge(55, "no LOADS, PADS alone: always", """
             tell BARE
@@ -332,6 +346,13 @@ final class LossEdges {
             text 2: grid columns 2 rows 1 width 1 limit 1 wear 9;pad at 0 0;
             room 1 = 1
             """);
+        for (int tens = 0; tens < 10; tens++) {
+            StringBuilder script = new StringBuilder();
+            for (int limit = 10 * tens; limit < 10 * tens + 10; limit++) {
+                script.append("text 2: grid columns 2 rows 1 width 1 limit ").append(limit).append(" wear 9;pad at 0 0;\nroom 1 = ").append(limit).append('\n');
+            }
+            edge(57, "each n from " + 10 * tens + " on", script.toString());
+        }
         edge(57, "0: LIMIT 0, DEAD", """
             text 2: grid columns 2 rows 1 width 1 limit 0 wear 9;pad at 0 0;
             room 1 = 0

@@ -30,31 +30,36 @@ final class Scripts {
     private static final int MOST_CALLS = 512;
     private static final int PROMISES = 66;
 
-    static final Map<String, String> GRIDS = Map.of(
+    static final Map<String, String> GRIDS = Map.ofEntries(
         // DROPS 0, 3, 6. STRAPS: 0 from 0 to 1, 1 from 1 to 2.
-        "LINE", "grid columns 3 rows 1 width 2 limit 10 wear 5; pad at 0 0; load at 2 0 draws 6;",
+        Map.entry("LINE", "grid columns 3 rows 1 width 2 limit 10 wear 5; pad at 0 0; load at 2 0 draws 6;"),
         // DROPS 0, 6, 6, 8. STRAPS: 0-1, 0-2, 1-3, 2-3.
-        "SQUARE", "grid columns 2 rows 2 width 1 limit 3 wear 9; pad at 0 0; load at 1 0 draws 4;"
-            + "load at 0 1 draws 4;load at 1 1 draws 4; budget 0 is 8;",
+        Map.entry("SQUARE", "grid columns 2 rows 2 width 1 limit 3 wear 9; pad at 0 0; load at 1 0 draws 4;"
+            + "load at 0 1 draws 4;load at 1 1 draws 4; budget 0 is 8;"),
         // Nodes 0 - 1, 2 - 3 and 4: two parts with a PAD each (0, 3), and a DEAD one that draws. DROPS 0, 3, 3/2, 0.
-        "BROKEN", "grid columns 5 rows 1 width 2 limit 10 wear 2; strap at 1 0 east width 0; strap at 3 0 east width 0;"
-            + "pad at 0 0; pad at 3 0; load at 1 0 draws 6; load at 2 0 draws 3 group 2; load at 4 0 draws 5;",
+        Map.entry("BROKEN", "grid columns 5 rows 1 width 2 limit 10 wear 2; strap at 1 0 east width 0; strap at 3 0 east width 0;"
+            + "pad at 0 0; pad at 3 0; load at 1 0 draws 6; load at 2 0 draws 3 group 2; load at 4 0 draws 5;"),
         // No PAD: all are DEAD.
-        "DEAD", "grid columns 2 rows 1 width 1 limit 5 wear 5; load at 1 0 draws 3;",
+        Map.entry("DEAD", "grid columns 2 rows 1 width 1 limit 5 wear 5; load at 1 0 draws 3;"),
         // One NODE, a PAD that draws; no STRAPS.
-        "SINGLE", "grid columns 1 rows 1 width 4 limit 0 wear 1; pad at 0 0; load at 0 0 draws 7;",
+        Map.entry("SINGLE", "grid columns 1 rows 1 width 4 limit 0 wear 1; pad at 0 0; load at 0 0 draws 7;"),
         // Three rows of three, a PAD in the middle, the corners draw. DROPS: corners 18, edges 12.
-        "CROSS", "grid columns 3 rows 3 width 1 limit 20 wear 6; pad at 1 1; load at 0 0 draws 12; load at 2 0 draws 12;"
-            + "load at 0 2 draws 12; load at 2 2 draws 12;",
+        Map.entry("CROSS", "grid columns 3 rows 3 width 1 limit 20 wear 6; pad at 1 1; load at 0 0 draws 12; load at 2 0 draws 12;"
+            + "load at 0 2 draws 12; load at 2 2 draws 12;"),
         // Nine NODES, twelve STRAPS that are not there, nothing else.
-        "BARE", "grid columns 3 rows 3 width 0 limit 0 wear 1;",
+        Map.entry("BARE", "grid columns 3 rows 3 width 0 limit 0 wear 1;"),
         // DROPS 0, 1, 2, 3 for each 1 drawn at the end; budgets of all, of GROUPS 1 and 2.
-        "GROUPS", "grid columns 4 rows 1 width 1 limit 20 wear 9;pad at 0 0;load at 0 0 draws 9;load at 1 0 draws 5 group 1;"
-            + "load at 2 0 draws 5 group 1;load at 3 0 draws 5 group 2;budget 1 is 7;budget 2 is 3;budget 0 is 9;",
+        Map.entry("GROUPS", "grid columns 4 rows 1 width 1 limit 20 wear 9;pad at 0 0;load at 0 0 draws 9;load at 1 0 draws 5 group 1;"
+            + "load at 2 0 draws 5 group 1;load at 3 0 draws 5 group 2;budget 1 is 7;budget 2 is 3;budget 0 is 9;"),
         // One STRAP, 4 wide: HEAT and DROP 5/4, 5/3, 5/2, 5 as it wears, then it is gone.
-        "WEARS", "grid columns 2 rows 1 width 4 limit 2 wear 1; pad at 0 0; load at 1 0 draws 5;",
+        Map.entry("WEARS", "grid columns 2 rows 1 width 4 limit 2 wear 1; pad at 0 0; load at 1 0 draws 5;"),
         // Two ways from 0 to 3 that are alike. DROPS 0, 3, 3, 6.
-        "WAYS", "grid columns 2 rows 2 width 1 limit 12 wear 9;pad at 0 0;load at 1 1 draws 6;");
+        Map.entry("WAYS", "grid columns 2 rows 2 width 1 limit 12 wear 9;pad at 0 0;load at 1 1 draws 6;"),
+        // The PAD is behind NODE 0, which draws. DROPS 3, 0.
+        Map.entry("FIRST", "grid columns 2 rows 1 width 1 limit 2 wear 2;pad at 1 0;load at 0 0 draws 3;"),
+        // Nine NODES, twelve STRAPS, something at the last ones.
+        Map.entry("FULL", "grid columns 3 rows 3 width 1 limit 40 wear 3; pad at 0 0; load at 2 2 draws 9 group 3; load at 0 1 draws 4;"
+            + "load at 1 1 draws 5 group 1; load at 2 0 draws 7 group 2; strap at 1 2 east width 2; budget 3 is 8;"));
 
     /** A script that shows that a promise holds in one case. */
     record Case(int promise, String name, String script) {

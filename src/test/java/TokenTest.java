@@ -15,6 +15,7 @@ public final class TokenTest {
         for (int i = 0; i < TOKENS.length; i++) {
             cutAhead(i);
             replace(i);
+            spell(i);
         }
         blanks();
         System.exit(Scripts.runCases("tokens", CASES) ? 0 : 1);
@@ -74,6 +75,28 @@ public final class TokenTest {
             script.append("fault 1 ").append(second).append(": ").append(ahead(i)).append(TOKENS[i]).append("<32>").append(TOKENS[i]).append(behind(i));
         }
         CASES.add(new Scripts.Case(5, "another TOKEN in place of TOKEN " + i, script.toString()));
+    }
+
+    /** A word is its own with all its letters: none other, none less, none more. */
+    private static void spell(int i) {
+        String word = TOKENS[i];
+        if (!word.matches("[a-z]+")) {
+            return;
+        }
+        StringBuilder script = new StringBuilder();
+        for (int k = 0; k < word.length(); k++) {
+            char other = word.charAt(k) == 'q' ? 'r' : 'q';
+            wrong(script, i, word.substring(0, k) + other + word.substring(k + 1));
+        }
+        wrong(script, i, word.substring(1));
+        wrong(script, i, word.substring(0, word.length() - 1));
+        wrong(script, i, "a" + word);
+        wrong(script, i, word + "z");
+        CASES.add(new Scripts.Case(5, "a letter of TOKEN " + i, script.toString()));
+    }
+
+    private static void wrong(StringBuilder script, int i, String word) {
+        script.append("fault 1 ").append(placeOf(i)).append(": ").append(ahead(i)).append(word).append(behind(i)).append('\n');
     }
 
     private static void blanks() {

@@ -70,6 +70,13 @@ final class YearEdges {
             through 1 0 = 6
             hottest = 1
             """);
+        edge(32, "a little HEAT is some", """
+            text 3: grid columns 2 rows 1 width 1 limit 5 wear 5; pad at 0 0; load at 1 0 draws 1;
+            hottest = 0
+            lay 0 4 = 1
+            heat 0 = 1 4
+            hottest = 0
+            """);
         edge(32, "none has any", """
             tell LINE
             draw 2 0 = 6

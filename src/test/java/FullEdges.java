@@ -13,6 +13,7 @@ final class FullEdges {
         edges.asTold();
         edges.drawingMore();
         edges.lastStraps();
+        edges.manyDigits();
     }
 
     private void edge(int promise, String script) {
@@ -74,12 +75,41 @@ final class FullEdges {
         edge(42, "draw 8 99 = 9\nwidens = 20\nwide = 0");
         edge(43, "draw 8 99 = 9\nwiden 0 = 1\nwiden 1 = 0\nwiden 19 = 8\nwiden 20 = -1");
         edge(44, "draw 8 22 = 9\nwide = 1\ndraw 8 99 = 22\nwide = 0");
-        edge(45, "draw 8 99 = 9\nfewest = -1");
-        edge(46, "draw 8 99 = 9\nfew {0 1 2 3} = -1");
+        edge(45, "draw 8 24 = 9\nfewest = 1\ndraw 8 28 = 24\nfewest = 2\ndraw 8 99 = 28\nfewest = -1");
+        edge(46, "draw 8 28 = 9\nfew = 0 0 -1\ndraw 8 99 = 28\nfew {0 1 2 3} = -1");
         edge(48, "draw 8 99 = 9\nslim 11 = -1");
         edge(51, "draw 8 99 = 9\nvital = 1");
         edge(57, "draw 8 99 = 9\nroom 8 = 21\nroom 7 = -1");
         edge(61, "draw 8 99 = 9\nyear = 12\nstrap 11 2 = 1\narea = 1\ncount 9 = 510\nundo = 1\narea = 13\nstrap 11 2 = 2");
+    }
+
+    private void large(int promise, String script) {
+        cases.add(new Scripts.Case(promise, "fractions of many digits", "tell LARGE\n" + script));
+    }
+
+    private void manyDigits() {
+        large(11, "drop 8 = 17508723 96424\ndrop 4 = 3441365 24106");
+        large(12, "through 11 = 1050195 24106");
+        large(13, "gives 0 = 771 1");
+        large(16, "worst = 8");
+        large(19, "loss = 11011274741 96424");
+        large(20, "moves 8 7 = 13847 48212");
+        large(21, "resists 2 6 = 4910 12053");
+        large(22, "most 8 = 17508723 96424");
+        large(24, "foe = 8");
+        large(27, "share 8 7 = 858514 5836241");
+        large(31, "heat 0 = 1270968 12053");
+        large(32, "hottest = 1");
+        large(35, "lasts = 0\ncalms = 4\naged 5 11 = 0");
+        large(38, "pad = 8 4 3");
+        large(39, "pads = 0 256 96 112");
+        large(40, "padded 1 = 9506099 157612\npadded 2 = 117213 4321");
+        large(42, "widens = 4\nwiden 0 = 1\nfewest = -1");
+        large(49, "without 0 = 877115 2116");
+        large(51, "vital = 0");
+        large(55, "chance 9 100 = 63");
+        large(56, "luck 9 100 = 3382807 24106");
+        large(61, "year = 12\ndrop 8 = 4405951 17403");
     }
 
     private void lastStraps() {

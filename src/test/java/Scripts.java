@@ -59,7 +59,11 @@ final class Scripts {
         Map.entry("FIRST", "grid columns 2 rows 1 width 1 limit 2 wear 2;pad at 1 0;load at 0 0 draws 3;"),
         // Nine NODES, twelve STRAPS, something at the last ones.
         Map.entry("FULL", "grid columns 3 rows 3 width 1 limit 40 wear 3; pad at 0 0; load at 2 2 draws 9 group 3; load at 0 1 draws 4;"
-            + "load at 1 1 draws 5 group 1; load at 2 0 draws 7 group 2; strap at 1 2 east width 2; budget 3 is 8;"));
+            + "load at 1 1 draws 5 group 1; load at 2 0 draws 7 group 2; strap at 1 2 east width 2; budget 3 is 8;"),
+        // As FULL, but wide STRAPS and great LOADS: fractions of many digits.
+        Map.entry("LARGE", "grid columns 3 rows 3 width 4 limit 99 wear 9;pad at 0 0;load at 1 0 draws 99;load at 2 0 draws 98;"
+            + "load at 0 1 draws 97;load at 1 1 draws 96;load at 2 1 draws 95;load at 0 2 draws 94;load at 1 2 draws 93;load at 2 2 draws 99;"
+            + "strap at 0 0 south width 3;strap at 1 1 south width 3;strap at 1 1 east width 3;strap at 0 2 east width 3;"));
 
     /** A script that shows that a promise holds in one case. */
     record Case(int promise, String name, String script) {
@@ -245,7 +249,17 @@ final class Scripts {
         for (int from = 0; from < text.length; from += 20) {
             call("feed", numbersOf(text, from));
         }
+        // A feed() that is refused for want of room shows here.
         check("the TAPE has room for " + told, call("end", start + text.length), start + text.length);
+    }
+
+    /** Tells a GRID of GRIDS without a script. */
+    static void tell(Object target, String name) {
+        byte[] text = bytesOf(GRIDS.get(name));
+        for (int from = 0; from < text.length; from += 20) {
+            invoke(target, "feed", numbersOf(text, from));
+        }
+        invoke(target, "grid");
     }
 
     static byte[] bytesOf(String told) {

@@ -347,6 +347,12 @@ final class SearchEdges {
             few = 0 1 -1
             draw 2 17 = 15
             few = 0 0 1 -1
+            text 4: grid columns 3 rows 1 width 4 limit 7 wear 9;strap at 1 0 east width 1;pad at 0 0;load at 2 0 draws 12;
+            few = 1 1 -1
+            draw 2 14 = 12
+            few = 1 1 1 -1
+            text 5: grid columns 3 rows 1 width 2 limit 12 wear 9;strap at 0 0 east width 3;pad at 0 0;load at 2 0 draws 24;load at 0 0 draws 1;
+            few = 0 1 1 -1
             """);
         edge(46, "a STRAP that is 4 wide is none of them", """
             text 4: grid columns 3 rows 1 width 4 limit 13 wear 9;strap at 1 0 east width 3;pad at 0 0;load at 2 0 draws 24;

@@ -270,6 +270,18 @@ final class YearEdges {
             tell BROKEN
             calms = 2
             """);
+        edge(37, "many YEARS, STRAP by STRAP", """
+            text 24: grid columns 3 rows 3 width 1 limit 12 wear 13;strap at 0 0 east width 3;strap at 0 0 south width 3;strap at 1 0 east width 4;\
+            strap at 1 0 south width 2;strap at 2 0 south width 4;strap at 0 1 east width 4;strap at 0 1 south width 4;strap at 1 1 east width 3;\
+            strap at 1 1 south width 3;strap at 0 2 east width 2;strap at 1 2 east width 3;load at 0 0 draws 6;pad at 1 0;load at 1 0 draws 6;\
+            load at 2 0 draws 32;load at 0 1 draws 23;load at 1 1 draws 33;load at 2 1 draws 31;pad at 0 2;load at 0 2 draws 24;pad at 1 2;\
+            load at 1 2 draws 38;load at 2 2 draws 39;
+            calms = 16
+            worn = 16 16 7 9 -1 -1 13 10 10 4 -1 3 -2
+            aged 8 = 3 3 0 1 4 4 4 2 2 0 2 0 -2
+            aged 15 1 = 1
+            aged 16 1 = 0
+            """);
         edge(37, "there is no GRID", """
             calms = -2
             """);

@@ -98,6 +98,13 @@ final class TapeEdges {
             kept undo = -2
             kept anew = -2
             """);
+        edge(1, "as good at its 512th call as at its first", """
+            507x feed 0 0 0 0 0
+            end 0 = 0
+            count 7 = 0
+            fault = 0 -1
+            grid = 0
+            """);
         edge(1, "an empty TAPE, no FAULT, no IMAGE", """
             count 7 = 0
             fault = 0 -1

@@ -1,28 +1,16 @@
-import java.util.List;
-
 /** Boundary cases of promises 58 to 66: acts, what they did, IMAGES, taking back. */
-final class ActEdges {
-    private final List<Scripts.Case> cases;
-
-    ActEdges(List<Scripts.Case> cases) {
-        this.cases = cases;
-    }
-
-    static void addTo(List<Scripts.Case> cases) {
-        ActEdges edges = new ActEdges(cases);
-        edges.lay();
-        edges.feeds();
-        edges.draw();
-        edges.year();
-        edges.did();
-        edges.image();
-        edges.back();
-        edges.undo();
-        edges.anew();
-    }
-
-    private void edge(int promise, String name, String script) {
-        cases.add(new Scripts.Case(promise, name, script));
+final class ActEdges extends Edges {
+    @Override
+    void addAll() {
+        lay();
+        feeds();
+        draw();
+        year();
+        did();
+        image();
+        back();
+        undo();
+        anew();
     }
 
     private void lay() {

@@ -1,26 +1,14 @@
-import java.util.List;
-
 /** Boundary cases of promises 22 to 30: what LOADS can do within bounds (Terms III), where a DROP is from, parts. */
-final class BoundEdges {
-    private final List<Scripts.Case> cases;
-
-    BoundEdges(List<Scripts.Case> cases) {
-        this.cases = cases;
-    }
-
-    static void addTo(List<Scripts.Case> cases) {
-        BoundEdges edges = new BoundEdges(cases);
-        edges.most();
-        edges.drawn();
-        edges.foeAndUnsafe();
-        edges.tight();
-        edges.share();
-        edges.feeder();
-        edges.partsAndReached();
-    }
-
-    private void edge(int promise, String name, String script) {
-        cases.add(new Scripts.Case(promise, name, script));
+final class BoundEdges extends Edges {
+    @Override
+    void addAll() {
+        most();
+        drawn();
+        foeAndUnsafe();
+        tight();
+        share();
+        feeder();
+        partsAndReached();
     }
 
     private void most() {

@@ -3,16 +3,14 @@ import java.util.List;
 
 /** The boundary cases that the document names, promise by promise, each a case of its own; Scripts tells their form. */
 public final class EdgeTest {
+    private static final List<Edges> ALL = List.of(new TapeEdges(), new GridEdges(), new BoundEdges(), new YearEdges(),
+        new SearchEdges(), new LossEdges(), new ActEdges(), new FullEdges());
+
     static List<Scripts.Case> cases() {
         List<Scripts.Case> cases = new ArrayList<>();
-        TapeEdges.addTo(cases);
-        GridEdges.addTo(cases);
-        BoundEdges.addTo(cases);
-        YearEdges.addTo(cases);
-        SearchEdges.addTo(cases);
-        LossEdges.addTo(cases);
-        ActEdges.addTo(cases);
-        FullEdges.addTo(cases);
+        for (Edges edges : ALL) {
+            cases.addAll(edges.cases());
+        }
         return cases;
     }
 

@@ -1,30 +1,18 @@
-import java.util.List;
-
 /** Boundary cases of promises 6 to 21: what the GRID is, DROPS, what goes where (Terms II). */
-final class GridEdges {
-    private final List<Scripts.Case> cases;
-
-    GridEdges(List<Scripts.Case> cases) {
-        this.cases = cases;
-    }
-
-    static void addTo(List<Scripts.Case> cases) {
-        GridEdges edges = new GridEdges(cases);
-        edges.count();
-        edges.strapAndBetween();
-        edges.nodeAndBudget();
-        edges.drop();
-        edges.through();
-        edges.givesAndChief();
-        edges.areaAndWorst();
-        edges.overAndHolds();
-        edges.loss();
-        edges.moves();
-        edges.resists();
-    }
-
-    private void edge(int promise, String name, String script) {
-        cases.add(new Scripts.Case(promise, name, script));
+final class GridEdges extends Edges {
+    @Override
+    void addAll() {
+        count();
+        strapAndBetween();
+        nodeAndBudget();
+        drop();
+        through();
+        givesAndChief();
+        areaAndWorst();
+        overAndHolds();
+        loss();
+        moves();
+        resists();
     }
 
     private void count() {

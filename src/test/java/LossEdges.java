@@ -1,31 +1,19 @@
-import java.util.List;
-
 /** Boundary cases of promises 49 to 57: STRAPS lost, other LOADS. */
-final class LossEdges {
+final class LossEdges extends Edges {
     /** A STRAP 1 wide: the DROP is what is drawn, 0 to 99. */
     private static final String DUO = "text 3: grid columns 2 rows 1 width 1 limit 50 wear 9;pad at 0 0;load at 1 0 draws 99;\n";
 
-    private final List<Scripts.Case> cases;
-
-    LossEdges(List<Scripts.Case> cases) {
-        this.cases = cases;
-    }
-
-    static void addTo(List<Scripts.Case> cases) {
-        LossEdges edges = new LossEdges(cases);
-        edges.without();
-        edges.lost();
-        edges.vital();
-        edges.spare();
-        edges.pairs();
-        edges.pair();
-        edges.chance();
-        edges.luck();
-        edges.room();
-    }
-
-    private void edge(int promise, String name, String script) {
-        cases.add(new Scripts.Case(promise, name, script));
+    @Override
+    void addAll() {
+        without();
+        lost();
+        vital();
+        spare();
+        pairs();
+        pair();
+        chance();
+        luck();
+        room();
     }
 
     private void without() {

@@ -1,29 +1,17 @@
-import java.util.List;
-
 /** Boundary cases of promises 38 to 48: PADS more, STRAPS wider and less wide (Terms V). */
-final class SearchEdges {
-    private final List<Scripts.Case> cases;
-
-    SearchEdges(List<Scripts.Case> cases) {
-        this.cases = cases;
-    }
-
-    static void addTo(List<Scripts.Case> cases) {
-        SearchEdges edges = new SearchEdges(cases);
-        edges.pad();
-        edges.pads();
-        edges.padded();
-        edges.enough();
-        edges.widens();
-        edges.widenAndWide();
-        edges.fewest();
-        edges.few();
-        edges.slims();
-        edges.slim();
-    }
-
-    private void edge(int promise, String name, String script) {
-        cases.add(new Scripts.Case(promise, name, script));
+final class SearchEdges extends Edges {
+    @Override
+    void addAll() {
+        pad();
+        pads();
+        padded();
+        enough();
+        widens();
+        widenAndWide();
+        fewest();
+        few();
+        slims();
+        slim();
     }
 
     private void pad() {

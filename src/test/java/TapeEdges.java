@@ -1,39 +1,31 @@
-import java.util.List;
-
 /** Boundary cases of promises 1 to 5, and of the TEXT (Terms I). */
-final class TapeEdges {
+final class TapeEdges extends Edges {
     /** 45 bytes: two columns, two rows. */
     private static final String GOOD = "grid columns 2 rows 2 width 1 limit 3 wear 9;";
 
-    private final List<Scripts.Case> cases;
-
-    TapeEdges(List<Scripts.Case> cases) {
-        this.cases = cases;
+    @Override
+    void addAll() {
+        newObject();
+        feed();
+        feedPlaces();
+        end();
+        grid();
+        gridLine();
+        strapLine();
+        padAndLoadLines();
+        budgetLine();
+        tokens();
+        manyDigits();
+        firstFault();
+        fault();
     }
 
-    static void addTo(List<Scripts.Case> cases) {
-        TapeEdges edges = new TapeEdges(cases);
-        edges.newObject();
-        edges.feed();
-        edges.feedPlaces();
-        edges.end();
-        edges.grid();
-        edges.gridLine();
-        edges.strapLine();
-        edges.padAndLoadLines();
-        edges.budgetLine();
-        edges.tokens();
-        edges.manyDigits();
-        edges.firstFault();
-        edges.fault();
-    }
-
-    private void edge(int promise, String name, String script) {
-        cases.add(new Scripts.Case(promise, name, script.replace("GOOD", GOOD)));
+    private void told(int promise, String name, String script) {
+        edge(promise, name, script.replace("GOOD", GOOD));
     }
 
     private void newObject() {
-        edge(1, "no GRID: what is asked of it", """
+        told(1, "no GRID: what is asked of it", """
             count = 0 0 0 0 0 0 0 0 0 0 -1
             strap 0 {0 1 2} = -1
             between 0 0 = -2
@@ -67,7 +59,7 @@ final class TapeEdges {
             worn 0 = -2
             calms = -2
             """);
-        edge(1, "no GRID: searches", """
+        told(1, "no GRID: searches", """
             pad 0 = -2
             pads {0 1 9} = -2
             padded 0 {0 1} = -2
@@ -90,7 +82,7 @@ final class TapeEdges {
             room 0 = -2
             did {0 1 2 3} {0 1} = -2
             """);
-        edge(1, "no GRID: acts are refused and change nothing", """
+        told(1, "no GRID: acts are refused and change nothing", """
             kept lay 0 1 = -2
             kept feeds 0 = -2
             kept draw 0 1 = -2
@@ -98,14 +90,14 @@ final class TapeEdges {
             kept undo = -2
             kept anew = -2
             """);
-        edge(1, "as good at its 512th call as at its first", """
+        told(1, "as good at its 512th call as at its first", """
             507x feed 0 0 0 0 0
             end 0 = 0
             count 7 = 0
             fault = 0 -1
             grid = 0
             """);
-        edge(1, "an empty TAPE, no FAULT, no IMAGE", """
+        told(1, "an empty TAPE, no FAULT, no IMAGE", """
             count 7 = 0
             fault = 0 -1
             end 0 = 0
@@ -117,43 +109,43 @@ final class TapeEdges {
     }
 
     private void feed() {
-        edge(2, "twenty bytes each time", """
+        told(2, "twenty bytes each time", """
             feed 0 0 0 0 0 = 20
             feed 1 2 3 4 5 = 40
             feed MIN MAX -1 0 1 = 60
             count 7 = 60
             """);
-        edge(2, "680 bytes take 20 more, 700 none", """
+        told(2, "680 bytes take 20 more, 700 none", """
             tape 680
             feed 1 2 3 4 5 = 700
             count 7 = 700
             kept feed 1 2 3 4 5 = -1
             count 7 = 700
             """);
-        edge(2, "35 times from an empty TAPE, not 36 times", """
+        told(2, "35 times from an empty TAPE, not 36 times", """
             34x feed 538976288 538976288 538976288 538976288 538976288
             feed 538976288 538976288 538976288 538976288 538976288 = 700
             feed 538976288 538976288 538976288 538976288 538976288 = -1
             grid = 0
             feed 538976288 538976288 538976288 538976288 538976288 = 20
             """);
-        edge(2, "681 bytes: it would have 701, none come", """
+        told(2, "681 bytes: it would have 701, none come", """
             tape 681
             kept feed 538976288 538976288 538976288 538976288 538976288 = -1
             count 7 = 681
             """);
-        edge(2, "699 bytes: it would have 719, none come", """
+        told(2, "699 bytes: it would have 719, none come", """
             tape 699
             kept feed 538976288 538976288 538976288 538976288 538976288 = -1
             """);
-        edge(2, "behind the TAPE: what is there stays ahead", """
+        told(2, "behind the TAPE: what is there stays ahead", """
             put: grid columns 2 rows 2
             put: <32>width 1 limit 3 wear 9;
             put: pad at 1 1;
             grid = 2
             count 8 = 8
             """);
-        edge(2, "behind what end() left", """
+        told(2, "behind what end() left", """
             put: grid columns 1 rows 1 nonsense
             end 19 = 19
             feed 538978080 538976288 538976288 538976288 538976288 = 39
@@ -162,9 +154,9 @@ final class TapeEdges {
             put: <32>1 width 0 limit 0 wear 1;
             grid = 1
             """);
-        edge(2, "a full TAPE is read to its last byte", "put: " + GOOD + " ".repeat(644) + "pad at 1 0;\ncount 7 = 700\ngrid = 2\ncount 8 = 2");
-        edge(2, "a full TAPE without an end of its last LINE", "put: " + GOOD + " ".repeat(645) + "pad at 1 0\ncount 7 = 700\ngrid = -4\nfault = 1 700");
-        edge(2, "the GRID stays while the TAPE is fed", """
+        told(2, "a full TAPE is read to its last byte", "put: " + GOOD + " ".repeat(644) + "pad at 1 0;\ncount 7 = 700\ngrid = 2\ncount 8 = 2");
+        told(2, "a full TAPE without an end of its last LINE", "put: " + GOOD + " ".repeat(645) + "pad at 1 0\ncount 7 = 700\ngrid = -4\nfault = 1 700");
+        told(2, "the GRID stays while the TAPE is fed", """
             tell LINE
             feed 1 2 3 4 5 = 20
             count = 3 1 10 5 2 0 3 20 1 0
@@ -182,54 +174,54 @@ final class TapeEdges {
             for (int number : numbers) {
                 script.append(' ').append(number);
             }
-            edge(2, "the byte at place " + place, script + " = 20\ngrid = -4\nfault = 1 " + place);
+            told(2, "the byte at place " + place, script + " = 20\ngrid = -4\nfault = 1 " + place);
         }
     }
 
     private void end() {
-        edge(3, "an empty TAPE has no byte", """
+        told(3, "an empty TAPE has no byte", """
             end 0 = 0
             kept end {1 20 MAX -1 MIN} = -1
             """);
-        edge(3, "n below 0, n above what it has: nothing happens", """
+        told(3, "n below 0, n above what it has: nothing happens", """
             put: grid columns 2 rows 2 width 1 limit 3 wear 9;
             kept end {-1 MIN 46 700 701 MAX} = -1
             count 7 = 45
             grid = 1
             """);
-        edge(3, "as many as it has", """
+        told(3, "as many as it has", """
             put: grid columns 2 rows 2 width 1 limit 3 wear 9;
             kept end 45 = 45
             grid = 1
             """);
-        edge(3, "a full TAPE", """
+        told(3, "a full TAPE", """
             tape 700
             kept end 701 = -1
             end 700 = 700
             end 699 = 699
             end 700 = -1
             """);
-        edge(3, "its first n bytes alone", """
+        told(3, "its first n bytes alone", """
             put: grid columns 2 rows 2 width 1 limit 3 wear 9;pad at 0 0;nonsense
             end 56 = 56
             count 7 = 56
             kept end 57 = -1
             grid = 2
             """);
-        edge(3, "one byte less cuts the sign", """
+        told(3, "one byte less cuts the sign", """
             put: grid columns 2 rows 2 width 1 limit 3 wear 9;pad at 0 0;
             end 55 = 55
             grid = -4
             fault = 1 55
             """);
-        edge(3, "n 0: an empty TAPE", """
+        told(3, "n 0: an empty TAPE", """
             put: nonsense
             end 0 = 0
             count 7 = 0
             grid = 0
             fault = 0 -1
             """);
-        edge(3, "the GRID stays", """
+        told(3, "the GRID stays", """
             tell LINE
             put: nonsense
             end 3 = 3
@@ -238,13 +230,13 @@ final class TapeEdges {
     }
 
     private void grid() {
-        edge(4, "an empty TAPE on a new object: no GRID", """
+        told(4, "an empty TAPE on a new object: no GRID", """
             grid = 0
             fault = 0 -1
             count 6 = 0
             area = -2
             """);
-        edge(4, "an empty TAPE behind a GRID: there is none then", """
+        told(4, "an empty TAPE behind a GRID: there is none then", """
             tell GROUPS
             draw 1 9 = 5
             grid = 0
@@ -257,13 +249,13 @@ final class TapeEdges {
             anew = -2
             did 2 0 = -2
             """);
-        edge(4, "blanks alone: no LINES, no GRID", """
+        told(4, "blanks alone: no LINES, no GRID", """
             tell LINE
             text 0: <32><10><32><10>
             count 7 = 0
             holds = -2
             """);
-        edge(4, "the TAPE is empty then", """
+        told(4, "the TAPE is empty then", """
             tell LINE
             count 7 = 0
             put: nonsense
@@ -271,7 +263,7 @@ final class TapeEdges {
             count 7 = 0
             grid = 0
             """);
-        edge(4, "in place of another: nothing of it stays", """
+        told(4, "in place of another: nothing of it stays", """
             tell GROUPS
             text 1: grid columns 4 rows 1 width 2 limit 7 wear 3;
             count = 4 1 7 3 3 0 1 0 0 15
@@ -284,7 +276,7 @@ final class TapeEdges {
             node 1 0 = -1
             strap 0 0 = -1
             """);
-        edge(4, "what was found for another GRID is found anew", """
+        told(4, "what was found for another GRID is found anew", """
             tell LINE
             worst = 2
             lasts = -1
@@ -305,7 +297,7 @@ final class TapeEdges {
             vital = 0
             spare = 0
             """);
-        edge(4, "no acts", """
+        told(4, "no acts", """
             tell LINE
             lay 0 1 = 2
             year = 1
@@ -316,7 +308,7 @@ final class TapeEdges {
             undo = -5
             anew = 0
             """);
-        edge(4, "a FAULT: all else stays", """
+        told(4, "a FAULT: all else stays", """
             tell LINE
             lay 0 1 = 2
             draw 2 7 = 6
@@ -334,14 +326,14 @@ final class TapeEdges {
             back 0 = -6
             count 5 = 2
             """);
-        edge(4, "a FAULT with no GRID: there is none", """
+        told(4, "a FAULT with no GRID: there is none", """
             put: nonsense
             grid = -4
             fault = 1 0
             holds = -2
             count 6 = 0
             """);
-        edge(4, "IMAGES stay", """
+        told(4, "IMAGES stay", """
             tell LINE
             image 0 = 0
             tell SQUARE
@@ -351,12 +343,12 @@ final class TapeEdges {
             back 0 = 0
             count 4 = 2
             """);
-        edge(4, "one LINE, many LINES", "text 1: " + GOOD + "\ntext 26: " + GOOD + "strap at 0 0 east width 2;".repeat(24)
+        told(4, "one LINE, many LINES", "text 1: " + GOOD + "\ntext 26: " + GOOD + "strap at 0 0 east width 2;".repeat(24)
             + "strap at 0 0 east width 3;\nstrap 0 2 = 3\ncount 6 = 26");
     }
 
     private void gridLine() {
-        edge(4, "columns 1 .. 9", """
+        told(4, "columns 1 .. 9", """
             text 1: grid columns 1 rows 1 width 1 limit 3 wear 9;
             count = 1 1
             text 1: grid columns 9 rows 1 width 1 limit 3 wear 9;
@@ -364,13 +356,13 @@ final class TapeEdges {
             fault 2 13: grid columns 0 rows 1 width 1 limit 3 wear 9;
             fault 2 13: grid columns 10 rows 1 width 1 limit 3 wear 9;
             """);
-        edge(4, "rows 1 .. 9", """
+        told(4, "rows 1 .. 9", """
             text 1: grid columns 1 rows 9 width 1 limit 3 wear 9;
             count = 1 9
             fault 2 20: grid columns 1 rows 0 width 1 limit 3 wear 9;
             fault 2 20: grid columns 1 rows 10 width 1 limit 3 wear 9;
             """);
-        edge(4, "columns times rows 9 at most, at rows", """
+        told(4, "columns times rows 9 at most, at rows", """
             text 1: grid columns 3 rows 3 width 1 limit 3 wear 9;
             count = 3 3 3 9 12
             text 1: grid columns 4 rows 2 width 1 limit 3 wear 9;
@@ -383,21 +375,21 @@ final class TapeEdges {
             fault 2 20: grid columns 9 rows 9 width 1 limit 3 wear 9;
             fault 2 20: grid columns 4 rows 3 nonsense
             """);
-        edge(4, "width 0 .. 4", """
+        told(4, "width 0 .. 4", """
             text 1: grid columns 2 rows 1 width 0 limit 3 wear 9;
             strap 0 2 = 0
             text 1: grid columns 2 rows 1 width 4 limit 3 wear 9;
             strap 0 2 = 4
             fault 2 28: grid columns 2 rows 1 width 5 limit 3 wear 9;
             """);
-        edge(4, "LIMIT 0 .. 999", """
+        told(4, "LIMIT 0 .. 999", """
             text 1: grid columns 2 rows 1 width 1 limit 0 wear 9;
             count 2 = 0
             text 1: grid columns 2 rows 1 width 1 limit 999 wear 9;
             count 2 = 999
             fault 2 36: grid columns 2 rows 1 width 1 limit 1000 wear 9;
             """);
-        edge(4, "WEAR 1 .. 999", """
+        told(4, "WEAR 1 .. 999", """
             text 1: grid columns 2 rows 1 width 1 limit 3 wear 1;
             count 3 = 1
             text 1: grid columns 2 rows 1 width 1 limit 3 wear 999;
@@ -405,7 +397,7 @@ final class TapeEdges {
             fault 2 43: grid columns 2 rows 2 width 1 limit 3 wear 0;
             fault 2 43: grid columns 2 rows 2 width 1 limit 3 wear 1000;
             """);
-        edge(4, "grid is the first LINE and no other", """
+        told(4, "grid is the first LINE and no other", """
             fault 1 0: pad at 0 0;
             fault 1 0: strap at 0 0 east width 1;
             fault 1 0: load at 0 0 draws 1;
@@ -417,26 +409,26 @@ final class TapeEdges {
     }
 
     private void strapLine() {
-        edge(4, "a strap east: not from the last column", """
+        told(4, "a strap east: not from the last column", """
             text 2: GOODstrap at 0 1 east width 4;
             strap 3 2 = 4
             fault 2 58: GOODstrap at 1 0 east width 1;
             fault 2 58: GOODstrap at 1 1 east width 1;
             fault 2 58: grid columns 1 rows 4 width 1 limit 3 wear 9;strap at 0 0 east width 1;
             """);
-        edge(4, "a strap south: not from the last row", """
+        told(4, "a strap south: not from the last row", """
             text 2: GOODstrap at 1 0 south width 4;
             strap 2 2 = 4
             fault 2 58: GOODstrap at 0 1 south width 1;
             fault 2 58: GOODstrap at 1 1 south width 1;
             fault 2 58: grid columns 4 rows 1 width 1 limit 3 wear 9;strap at 0 0 south width 1;
             """);
-        edge(4, "a strap to no other side", """
+        told(4, "a strap to no other side", """
             fault 1 58: GOODstrap at 1 1 north width 1;
             fault 1 58: GOODstrap at 1 1 west width 1;
             fault 1 58: GOODstrap at 0 0 width 1;
             """);
-        edge(4, "a strap at x 0 .. C - 1, y 0 .. R - 1", """
+        told(4, "a strap at x 0 .. C - 1, y 0 .. R - 1", """
             fault 2 54: GOODstrap at 2 0 east width 1;
             fault 2 56: GOODstrap at 0 2 east width 1;
             text 2: grid columns 4 rows 2 width 1 limit 3 wear 9;strap at 3 0 south width 2;
@@ -448,7 +440,7 @@ final class TapeEdges {
             fault 2 54: grid columns 2 rows 4 width 1 limit 3 wear 9;strap at 2 3 east width 2;
             fault 2 56: grid columns 2 rows 4 width 1 limit 3 wear 9;strap at 0 4 east width 2;
             """);
-        edge(4, "a strap's width 0 .. 4", """
+        told(4, "a strap's width 0 .. 4", """
             text 3: GOODstrap at 0 0 east width 0;strap at 0 0 south width 4;
             strap 0 2 = 0
             strap 1 2 = 4
@@ -456,14 +448,14 @@ final class TapeEdges {
             fault 2 69: GOODstrap at 0 0 east width 5;
             fault 2 70: GOODstrap at 0 0 south width 10;
             """);
-        edge(4, "a strap told again is as told last", """
+        told(4, "a strap told again is as told last", """
             text 4: GOODstrap at 0 0 east width 0;strap at 0 0 east width 3;strap at 0 0 east width 2;
             strap 0 2 = 2
             """);
     }
 
     private void padAndLoadLines() {
-        edge(4, "a pad at x 0 .. C - 1, y 0 .. R - 1", """
+        told(4, "a pad at x 0 .. C - 1, y 0 .. R - 1", """
             text 3: GOODpad at 0 0;pad at 1 1;
             count 8 = 9
             fault 2 52: GOODpad at 2 0;
@@ -475,38 +467,38 @@ final class TapeEdges {
             count 8 = 32
             fault 2 52: grid columns 2 rows 4 width 1 limit 3 wear 9;pad at 2 1;
             """);
-        edge(4, "a pad: each NODE once, at y", """
+        told(4, "a pad: each NODE once, at y", """
             fault 2 65: GOODpad at 0 0;pad at 0 0;
             fault 2 76: GOODpad at 0 1;pad at 1 0;pad at 1 0 nonsense
             text 5: GOODpad at 0 0;pad at 1 0;pad at 0 1;pad at 1 1;
             count 8 = 15
             """);
-        edge(4, "a load: each NODE once, at y", """
+        told(4, "a load: each NODE once, at y", """
             fault 2 75: GOODload at 1 1 draws 1;load at 1 1 draws 1;
             text 3: GOODload at 1 0 draws 1;load at 0 1 draws 2;
             node 1 1 = 1
             node 2 1 = 2
             """);
-        edge(4, "a pad and a load at one NODE", """
+        told(4, "a pad and a load at one NODE", """
             text 3: GOODpad at 0 1;load at 0 1 draws 1;
             node 2 = 1 1 0 0
             text 3: GOODload at 0 1 draws 1;pad at 0 1;
             node 2 = 1 1 0 0
             """);
-        edge(4, "a load at x 0 .. C - 1, y 0 .. R - 1", """
+        told(4, "a load at x 0 .. C - 1, y 0 .. R - 1", """
             fault 2 53: GOODload at 2 1 draws 1;
             fault 2 55: GOODload at 1 2 draws 1;
             text 2: GOODload at 1 1 draws 1;
             node 3 1 = 1
             """);
-        edge(4, "draws 1 .. 99", """
+        told(4, "draws 1 .. 99", """
             text 3: GOODload at 0 0 draws 1;load at 1 0 draws 99;
             node 0 1 = 1
             node 1 1 = 99
             fault 2 63: GOODload at 0 0 draws 0;
             fault 2 63: GOODload at 0 0 draws 100;
             """);
-        edge(4, "GROUP 1 .. 3, 0 without", """
+        told(4, "GROUP 1 .. 3, 0 without", """
             text 4: GOODload at 0 0 draws 9 group 1;load at 1 0 draws 9 group 3;load at 0 1 draws 9;
             node {0 1 2 3} 0 = 0
             node 0 2 = 1
@@ -521,17 +513,17 @@ final class TapeEdges {
     }
 
     private void budgetLine() {
-        edge(4, "a budget of 0 .. 3", """
+        told(4, "a budget of 0 .. 3", """
             text 5: GOODbudget 3 is 1;budget 2 is 2;budget 1 is 3;budget 0 is 4;
             budget = 4 3 2 1 -1
             fault 2 52: GOODbudget 4 is 1;
             """);
-        edge(4, "a budget 0 .. 999, 999 without", """
+        told(4, "a budget 0 .. 999, 999 without", """
             text 3: GOODbudget 0 is 0;budget 3 is 999;
             budget = 0 999 999 999 -1
             fault 2 57: GOODbudget 0 is 1000;
             """);
-        edge(4, "a budget: each once, at its first number", """
+        told(4, "a budget: each once, at its first number", """
             fault 2 66: GOODbudget 0 is 9;budget 0 is 9;
             fault 2 66: GOODbudget 3 is 9;budget 3 nonsense
             fault 2 68: GOODbudget 2 is 999;budget 2 is 1000;
@@ -539,7 +531,7 @@ final class TapeEdges {
     }
 
     private void tokens() {
-        edge(4, "blanks are 32 and 10 alone", """
+        told(4, "blanks are 32 and 10 alone", """
             text 2: <10>grid<10>columns<32><32>2<10><10>rows 2 width 1 limit 3 wear 9<32>;<10>pad at 0 0<10>;<10>
             fault 1 4: grid<9>columns 2 rows 2
             fault 1 4: grid<13>columns 2 rows 2
@@ -549,14 +541,14 @@ final class TapeEdges {
             fault 1 4: grid<33>columns 2 rows 2
             fault 1 4: grid<160>columns 2 rows 2
             """);
-        edge(4, "no blanks where TOKENS are apart without", """
+        told(4, "no blanks where TOKENS are apart without", """
             text 3: grid columns2rows2width1limit3wear9;load at1 0draws9group2;budget2is5;
             node 1 1 = 9
             budget 2 = 5
             fault 1 0: gridcolumns 2 rows 2
             fault 2 13: grid columns 22rows
             """);
-        edge(4, "a TOKEN is the longest", """
+        told(4, "a TOKEN is the longest", """
             fault 1 0: grids columns 2
             fault 1 0: gri columns 2
             fault 1 5: grid column 2
@@ -565,7 +557,7 @@ final class TapeEdges {
             fault 1 15: grid columns 2 1 rows
             fault 1 0: gridGOOD
             """);
-        edge(4, "bytes about a .. z, 0 .. 9, ;", """
+        told(4, "bytes about a .. z, 0 .. 9, ;", """
             fault 1 4: grid<96> columns
             fault 1 4: grid<123> columns
             fault 1 0: Grid columns
@@ -580,13 +572,13 @@ final class TapeEdges {
             fault 1 0: <128>
             fault 1 0: <255>
             """);
-        edge(4, "a word with a letter of a and one of z", """
+        told(4, "a word with a letter of a and one of z", """
             fault 1 45: GOODa
             fault 1 45: GOODz at 0 0;
             fault 1 45: GOODpadz at 0 0;
             fault 1 45: GOODapad at 0 0;
             """);
-        edge(4, "the sign ; ends a LINE, and stands nowhere else", """
+        told(4, "the sign ; ends a LINE, and stands nowhere else", """
             fault 1 0: ;
             fault 1 45: GOOD;
             fault 1 46: GOOD ;
@@ -594,7 +586,7 @@ final class TapeEdges {
             fault 1 4: grid;
             fault 1 49: GOODpad ;at 0 0;
             """);
-        edge(5, "the end of the TEXT: its place, blanks and all", """
+        told(5, "the end of the TEXT: its place, blanks and all", """
             fault 1 4: grid
             fault 1 6: grid<32><10>
             fault 1 44: grid columns 2 rows 2 width 1 limit 3 wear 9
@@ -611,10 +603,10 @@ final class TapeEdges {
     private void manyDigits() {
         String zeros = "0".repeat(500);
         String nines = "9".repeat(600);
-        edge(4, "noughts ahead of a number", "text 1: grid columns 0002 rows 01 width 000 limit 0000000000000000000000005 wear 00999;\n"
+        told(4, "noughts ahead of a number", "text 1: grid columns 0002 rows 01 width 000 limit 0000000000000000000000005 wear 00999;\n"
             + "count = 2 1 5 999 1\ntext 1: grid columns " + zeros + "3 rows 3 width 1 limit 3 wear 9;\ncount 0 = 3\n"
             + "fault 2 13: grid columns " + zeros + " rows 3 width 1 limit 3 wear 9;");
-        edge(5, "a number of many digits is out of its bounds", """
+        told(5, "a number of many digits is out of its bounds", """
             fault 2 13: grid columns 4294967297 rows 1 width 1 limit 3 wear 9;
             fault 2 13: grid columns 4294967298 rows 1 width 1 limit 3 wear 9;
             fault 2 13: grid columns 18446744073709551617 rows 1 width 1 limit 3 wear 9;
@@ -633,11 +625,11 @@ final class TapeEdges {
             fault 2 52: GOODbudget 4294967296 is 5;
             fault 2 57: GOODbudget 0 is 4294967301;
             """);
-        edge(5, "a number of 600 digits", "fault 2 13: grid columns " + nines + " rows 1\nfault 2 57: GOODbudget 0 is " + nines + ";");
+        told(5, "a number of 600 digits", "fault 2 13: grid columns " + nines + " rows 1\nfault 2 57: GOODbudget 0 is " + nines + ";");
     }
 
     private void firstFault() {
-        edge(5, "the first by its place, whatever it is", """
+        told(5, "the first by its place, whatever it is", """
             fault 2 13: grid columns 10 rows <200>
             fault 1 15: grid columns 9 <200> 10
             fault 2 13: grid columns 0 nonsense
@@ -647,7 +639,7 @@ final class TapeEdges {
             fault 2 58: GOODstrap at 1 0 east nonsense
             fault 2 63: GOODload at 0 0 draws 100 group 9;
             """);
-        edge(5, "of one place the least: a number that can't stand there", """
+        told(5, "of one place the least: a number that can't stand there", """
             fault 1 5: grid 1000
             fault 1 15: grid columns 9 1000
             fault 1 45: GOOD1000
@@ -658,19 +650,19 @@ final class TapeEdges {
     }
 
     private void fault() {
-        edge(5, "ahead of any grid()", """
+        told(5, "ahead of any grid()", """
             fault = 0 -1 -1
             put: nonsense
             fault = 0 -1 -1
             """);
-        edge(5, "another what", """
+        told(5, "another what", """
             fault {-1 2 3 MIN MAX} = -1
             tell LINE
             fault {-1 2 3 MIN MAX} = -1
             fault 1 0: nonsense
             fault {-1 2 3 MIN MAX} = -1
             """);
-        edge(5, "of the latest grid(): a FAULT, then none", """
+        told(5, "of the latest grid(): a FAULT, then none", """
             fault 2 13: grid columns 0
             fault = 2 13 -1
             tell LINE
@@ -680,7 +672,7 @@ final class TapeEdges {
             grid = 0
             fault = 0 -1 -1
             """);
-        edge(5, "feed(), end(), acts and IMAGES leave it", """
+        told(5, "feed(), end(), acts and IMAGES leave it", """
             tell LINE
             image 0 = 0
             fault 2 13: grid columns 0

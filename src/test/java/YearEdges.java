@@ -1,24 +1,12 @@
-import java.util.List;
-
 /** Boundary cases of promises 31 to 37: HEAT and YEARS (Terms IV). */
-final class YearEdges {
-    private final List<Scripts.Case> cases;
-
-    YearEdges(List<Scripts.Case> cases) {
-        this.cases = cases;
-    }
-
-    static void addTo(List<Scripts.Case> cases) {
-        YearEdges edges = new YearEdges(cases);
-        edges.heat();
-        edges.hottestAndWearing();
-        edges.aged();
-        edges.lasts();
-        edges.wornAndCalms();
-    }
-
-    private void edge(int promise, String name, String script) {
-        cases.add(new Scripts.Case(promise, name, script));
+final class YearEdges extends Edges {
+    @Override
+    void addAll() {
+        heat();
+        hottestAndWearing();
+        aged();
+        lasts();
+        wornAndCalms();
     }
 
     private void heat() {

@@ -250,6 +250,11 @@ final class BoundEdges extends Edges {
             share 1 3 = 1 3 -2
             share 3 1 = 1 4 -2
             """);
+        edge(27, "a DROP of 1, a LOAD of 1", """
+            text 3: grid columns 2 rows 1 width 1 limit 5 wear 5; pad at 0 0; load at 1 0 draws 1;
+            drop 1 = 1 1
+            share 1 1 = 1 1 -2
+            """);
         edge(27, "NODE 0, too", """
             tell FIRST
             share 0 0 = 1 1 -2

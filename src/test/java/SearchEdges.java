@@ -342,6 +342,14 @@ final class SearchEdges extends Edges {
             text 5: grid columns 3 rows 1 width 2 limit 12 wear 9;strap at 0 0 east width 3;pad at 0 0;load at 2 0 draws 24;load at 0 0 draws 1;
             few = 0 1 1 -1
             """);
+        edge(46, "one STRAP more than once, ahead of others", """
+            text 4: grid columns 4 rows 1 width 4 limit 10 wear 9;strap at 1 0 east width 1;pad at 0 0;load at 3 0 draws 12;
+            few = 1 1 -1
+            draw 3 13 = 12
+            few = 1 1 1 -1
+            text 5: grid columns 4 rows 1 width 4 limit 18 wear 9;strap at 0 0 east width 3;strap at 1 0 east width 2;pad at 0 0;load at 3 0 draws 24;
+            few = 0 1 1 -1
+            """);
         edge(46, "a STRAP that is 4 wide is none of them", """
             text 4: grid columns 3 rows 1 width 4 limit 13 wear 9;strap at 1 0 east width 3;pad at 0 0;load at 2 0 draws 24;
             drop 2 = 14 1

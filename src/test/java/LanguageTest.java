@@ -1,3 +1,5 @@
+import java.io.PrintWriter;
+import java.io.StringWriter;
 import java.lang.management.ManagementFactory;
 import java.lang.reflect.Field;
 import java.lang.reflect.Method;
@@ -6,10 +8,13 @@ import java.nio.file.Files;
 import java.nio.file.Path;
 import java.util.ArrayList;
 import java.util.List;
+import java.util.Map;
 import java.util.Set;
+import java.util.TreeMap;
 import java.util.TreeSet;
 import java.util.regex.Matcher;
 import java.util.regex.Pattern;
+import java.util.spi.ToolProvider;
 
 /**
  * What of ../shared/LANGUAGE.md a test can see: the face is the document's, words that are ruled out do not stand in
@@ -24,7 +29,9 @@ public final class LanguageTest {
         words(code);
         face(Files.readString(Path.of("../shared/DOC.md")));
         classes();
+        types();
         methodLengths(source);
+        openCalls();
         oddArguments();
         room();
         System.out.println(wrong == 0 ? "language: all rules seen to" : "language: " + wrong + " rules broken");
@@ -115,6 +122,73 @@ public final class LanguageTest {
                 rule(method.getParameterCount() <= 7, "parameters: " + method);
             }
         }
+    }
+
+    private static void types() {
+        Set<Class<?>> own = Set.of(SupplyGrid.class.getDeclaredClasses());
+        List<Class<?>> all = new ArrayList<>(own);
+        all.add(SupplyGrid.class);
+        for (Class<?> type : all) {
+            for (Field field : type.getDeclaredFields()) {
+                Class<?> kind = field.getType();
+                boolean row = kind.isArray() && (kind.getComponentType().isPrimitive() || own.contains(kind.getComponentType()));
+                boolean rows = kind == int[][].class || kind == long[][].class;
+                boolean plain = kind.isPrimitive() || kind == String.class;
+                boolean fixed = plain || Set.of(int[].class, long[].class, char[].class, byte[].class).contains(kind);
+                rule(fixed || !Modifier.isStatic(field.getModifiers()), "a static that is no constant: " + field);
+                rule(plain || row || rows || own.contains(kind), "the type of " + field);
+            }
+        }
+    }
+
+    /** Which method calls which, as the compiled class has it: calls go at most eight deep, none comes back to itself. */
+    private static void openCalls() throws Exception {
+        Map<String, Set<String>> calls = new TreeMap<>();
+        List<Class<?>> all = new ArrayList<>(List.of(SupplyGrid.class.getDeclaredClasses()));
+        all.add(SupplyGrid.class);
+        String folder = Path.of(SupplyGrid.class.getProtectionDomain().getCodeSource().getLocation().toURI()).toString();
+        for (Class<?> type : all) {
+            StringWriter code = new StringWriter();
+            PrintWriter printer = new PrintWriter(code);
+            ToolProvider.findFirst("javap").orElseThrow().run(printer, printer, "-p", "-c", "-cp", folder, type.getName());
+            noteCalls(code.toString(), type.getName(), calls);
+        }
+        rule(calls.size() > 100, "calls are not seen: " + calls.keySet());
+        for (String method : calls.keySet()) {
+            rule(depth(method, calls, 0) <= 8, "calls go deep from " + method);
+        }
+    }
+
+    private static void noteCalls(String code, String type, Map<String, Set<String>> calls) {
+        String method = "";
+        for (String line : code.split("\n")) {
+            Matcher head = Pattern.compile("^  [a-z].*?([A-Za-z0-9_$]+)\\(.*\\);$").matcher(line);
+            Matcher call = Pattern.compile("// Method (?:([A-Za-z0-9_$/]+)\\.)?\"?([A-Za-z0-9_<>]+)\"?:").matcher(line);
+            if (line.equals("  static {};")) {
+                // Rows written out in a constant's initialiser.
+                method = type + ".<init>";
+            } else if (head.matches() || line.matches("^  [A-Z].*\\);$")) {
+                String name = head.matches() ? head.group(1) : type;
+                method = type + "." + (name.equals(type) ? "<init>" : name);
+                calls.put(method, new TreeSet<>());
+            } else if (call.find() && !method.isEmpty()) {
+                calls.get(method).add((call.group(1) == null ? type : call.group(1)) + "." + call.group(2));
+            }
+            boolean makes = line.matches(".*: (new|newarray|anewarray|multianewarray) .*");
+            rule(!makes || method.endsWith(".<init>"), "an object is made in " + method);
+        }
+    }
+
+    /** How many calls stand open at once; far too many where one comes back to itself. */
+    private static int depth(String method, Map<String, Set<String>> calls, int above) {
+        if (above > 50) {
+            return 1000;
+        }
+        int deepest = 0;
+        for (String next : calls.getOrDefault(method, Set.of())) {
+            deepest = Math.max(deepest, depth(next, calls, above + 1));
+        }
+        return deepest + 1;
     }
 
     private static void methodLengths(String source) {
